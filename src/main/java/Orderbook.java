@@ -128,14 +128,14 @@ public final class Orderbook {
     if (!found.isAlive()) {
       throw new IllegalStateException("the order neither waits nor sleeps");
     }
-    return tell(new Call(TOLD_CANCEL, order, 0, 0, 0, 0));
+    return tell(new Call(TOLD_CANCEL, order, 0));
   }
 
   public int cancelAll(int owner) throws IllegalArgumentException {
     if (!isOwner(owner)) {
       throw new IllegalArgumentException("owner");
     }
-    return tell(new Call(TOLD_CANCEL_ALL, owner, 0, 0, 0, 0));
+    return tell(new Call(TOLD_CANCEL_ALL, owner, 0));
   }
 
   public int less(int order, int pieces)
@@ -150,7 +150,7 @@ public final class Orderbook {
     if (!found.isAlive() || found.left <= pieces) {
       throw new IllegalStateException("the order has not more than that left");
     }
-    return tell(new Call(TOLD_LESS, order, pieces, 0, 0, 0));
+    return tell(new Call(TOLD_LESS, order, pieces));
   }
 
   public int change(int order, int price)
@@ -165,7 +165,7 @@ public final class Orderbook {
     if (found.state != WAITS) {
       throw new IllegalStateException("the order does not wait");
     }
-    return tell(new Call(TOLD_CHANGE, order, price, 0, 0, 0));
+    return tell(new Call(TOLD_CHANGE, order, price));
   }
 
   public int pass(int minutes) throws IllegalArgumentException, IllegalStateException {
@@ -175,56 +175,56 @@ public final class Orderbook {
     if (live.minute + minutes > MOST_MINUTE) {
       throw new IllegalStateException("no minute is behind 9999");
     }
-    return tell(new Call(TOLD_PASS, minutes, 0, 0, 0, 0));
+    return tell(new Call(TOLD_PASS, minutes, 0));
   }
 
   public int tick(int tick) throws IllegalArgumentException {
     if (!isWithin(tick, 1, MOST_TICK)) {
       throw new IllegalArgumentException("tick");
     }
-    return tell(new Call(TOLD_TICK, tick, 0, 0, 0, 0));
+    return tell(new Call(TOLD_TICK, tick, 0));
   }
 
   public int band(int reference, int band) throws IllegalArgumentException {
     if (!isPrice(reference) || !isWithin(band, 0, MOST_BAND)) {
       throw new IllegalArgumentException("reference or band");
     }
-    return tell(new Call(TOLD_BAND, reference, band, 0, 0, 0));
+    return tell(new Call(TOLD_BAND, reference, band));
   }
 
   public int limit(int owner, int limit) throws IllegalArgumentException {
     if (!isOwner(owner) || !isWithin(limit, 0, MOST_LIMIT)) {
       throw new IllegalArgumentException("owner or limit");
     }
-    return tell(new Call(TOLD_LIMIT, owner, limit, 0, 0, 0));
+    return tell(new Call(TOLD_LIMIT, owner, limit));
   }
 
   public int gather() throws IllegalStateException {
     if (live.phase == GATHERING) {
       throw new IllegalStateException("the phase is gathering");
     }
-    return tell(new Call(TOLD_GATHER, 0, 0, 0, 0, 0));
+    return tell(new Call(TOLD_GATHER, 0, 0));
   }
 
   public int auction() throws IllegalStateException {
     if (live.phase != GATHERING) {
       throw new IllegalStateException("the phase is not gathering");
     }
-    return tell(new Call(TOLD_AUCTION, 0, 0, 0, 0, 0));
+    return tell(new Call(TOLD_AUCTION, 0, 0));
   }
 
   public int halt() throws IllegalStateException {
     if (live.phase != OPEN) {
       throw new IllegalStateException("the phase is not open");
     }
-    return tell(new Call(TOLD_HALT, 0, 0, 0, 0, 0));
+    return tell(new Call(TOLD_HALT, 0, 0));
   }
 
   public int resume() throws IllegalStateException {
     if (live.phase != HALTED) {
       throw new IllegalStateException("the phase is not halted");
     }
-    return tell(new Call(TOLD_RESUME, 0, 0, 0, 0, 0));
+    return tell(new Call(TOLD_RESUME, 0, 0));
   }
 
   public int blank() {
@@ -576,6 +576,10 @@ public final class Orderbook {
       this.d = d;
       this.e = e;
     }
+
+    Call(int kind, int a, int b) {
+      this(kind, a, b, 0, 0, 0);
+    }
   }
 
   private static final class Order {
@@ -641,7 +645,7 @@ public final class Orderbook {
     }
   }
 
-  /** Orders one behind the other by rank, of one rank by coming: the queues of a side, best first. */
+  /** Orders by rank, of one rank by coming: of a side its queues one behind the other, best first. */
   private static final class Line {
     Order head;
 
@@ -1088,7 +1092,7 @@ public final class Orderbook {
     }
   }
 
-  /** All that calls change; a call that it is told has been looked at already, so it never throws. */
+  /** All that calls change; the face looks at a call ahead of it, so that it never throws. */
   private static final class Book {
     final Line buys = new Line();
     final Line sells = new Line();
@@ -1096,7 +1100,7 @@ public final class Orderbook {
     final Tape tape = new Tape();
     final Accounts accounts = new Accounts();
     final Cross cross = new Cross();
-    /** Made once each and used again by every replay; the first ones, so many as are taken, count. */
+    /** Made once each, used again by every replay; only the first ones, as many as taken, count. */
     final ArrayList<Order> orders = new ArrayList<Order>();
     final int[] refusals = new int[MOST_REASONS + 1];
     int taken;
@@ -1195,7 +1199,8 @@ public final class Orderbook {
     }
 
     /** The order that the next number is for; it has it only if it is taken then. */
-    private Order fresh(int kind, int side, int price, int pieces, int owner, int shown, int trigger) {
+    private Order fresh(int kind, int side, int price, int pieces, int owner, int shown,
+        int trigger) {
       if (taken >= MOST_CALLS) {
         return null;
       }
@@ -1301,7 +1306,7 @@ public final class Orderbook {
       return couldTrade(order.side, order.price, order.pieces, order.owner, false) < order.pieces;
     }
 
-    /** The parts of hidden ones only change who is first at a price, so whole orders are counted. */
+    /** Parts of hidden ones only change who is first at a price, so whole orders are counted. */
     int couldTrade(int side, int price, int pieces, int owner, boolean isMoney) {
       int open = pieces;
       int sum = 0;
@@ -1345,6 +1350,7 @@ public final class Orderbook {
           endAs(ENDED, coming);
         } else {
           come(coming);
+          settle(coming);
         }
         coming = nextAwake();
       }
@@ -1385,10 +1391,12 @@ public final class Orderbook {
           renew(other);
         }
       }
-      settle(order);
     }
 
     private void settle(Order order) {
+      if (order.state != COMES) {
+        return;
+      }
       if (order.left == 0) {
         order.state = DONE;
       } else if (order.kind == AT_ONCE || order.kind == ALL_OR_NONE) {
@@ -1543,6 +1551,10 @@ public final class Orderbook {
       return order.state == WAITS ? lineOf(order.side).aheadOf(order) : NONE;
     }
 
+    private int aliveOf(int owner) {
+      return buys.manyOfOwner(owner) + sells.manyOfOwner(owner) + asleep.manyOfOwner(owner);
+    }
+
     int ofAccount(int owner, int what) {
       switch (what) {
         case 0: return accounts.positionOf(owner);
@@ -1550,7 +1562,7 @@ public final class Orderbook {
         case 2: return accounts.limitOf(owner);
         case 3: return leftOf(owner, BUY);
         case 4: return leftOf(owner, SELL);
-        case 5: return buys.manyOfOwner(owner) + sells.manyOfOwner(owner) + asleep.manyOfOwner(owner);
+        case 5: return aliveOf(owner);
         default: return accounts.clashesOf(owner);
       }
     }

@@ -1,3 +1,4 @@
+import java.util.Arrays;
 import java.util.Objects;
 import java.util.concurrent.Callable;
 
@@ -17,8 +18,8 @@ final class Check {
     }
   }
 
-  /** The very class: a subclass, such as the machine's own, is not as due. */
-  void fails(String promise, Class<?> due, Callable<?> call) {
+  /** Of what is thrown the very class: a subclass, such as the machine's own, is not as due. */
+  void fails(String promise, Object due, Callable<?> call) {
     Object got;
     try {
       got = call.call();
@@ -26,6 +27,26 @@ final class Check {
       got = e.getClass();
     }
     is(promise, got, due);
+  }
+
+  /** Thrown, and nothing at all is changed by it. */
+  void failsUnchanged(String promise, Class<?> due, Orderbook x, Callable<?> call) {
+    String before = Snapshot.of(x);
+    fails(promise, due, call);
+    is(promise + ", changed", Snapshot.of(x), before);
+  }
+
+  /** A reason is told back, kept among what was told and counted; the book stays as it was. */
+  void refuses(String promise, int reason, Orderbook x, Callable<Integer> call) {
+    String before = Snapshot.ofBook(x);
+    int[] counts = Snapshot.refusals(x);
+    int told = x.house(13);
+    counts[reason]++;
+    fails(promise, Integer.valueOf(-reason), call);
+    is(promise + ", changed", Snapshot.ofBook(x), before);
+    is(promise + ", counted", Arrays.toString(Snapshot.refusals(x)), Arrays.toString(counts));
+    is(promise + ", told", x.house(13), told + 1);
+    is(promise + ", told back", x.told(told, true), -reason);
   }
 
   void end() {

@@ -1,3 +1,5 @@
+import java.util.Arrays;
+
 /** Promises 19 to 34: what is answered where there is nothing, the first, the last and one more. */
 public final class AnswersTest {
   private static final Class<?> INDEX = IndexOutOfBoundsException.class;
@@ -39,6 +41,8 @@ public final class AnswersTest {
     toldOfNone();
     toldOfAll();
     toldOfThrown();
+    askingChangesNothing();
+    booksShareNothing();
     check.end();
   }
 
@@ -508,5 +512,40 @@ public final class AnswersTest {
     x.halt();
     check.is("s5 a reason is told", x.order(0, 0, 10, 5, 0), -1);
     check.is("34 told back", both(x.house(13), x.told(1, true)), both(2, -1));
+  }
+
+  /** Each method that only asks, with arguments that are right, in each phase. */
+  private static void askingChangesNothing() {
+    int[][] asked = {{17, 0}, {18, 0, 0, 1}, {19, 2, 6}, {20, 0, 100}, {21, 0, 100, 0}, {22, 0, 100},
+        {23, 0, 1, 999}, {24, 1}, {25, 0}, {26, 0, 1}, {27, 0}, {28, 0, 2}, {29, 0, 1}, {30, 13}, {31, 8},
+        {32, 0, 1}, {33, 0, 999, 9, 3, 1}, {34, 1}, {35, 2, 10}, {36}, {37}};
+    for (int phase = 0; phase <= 2; phase++) {
+      Orderbook x = traded(1);
+      x.hidden(0, 100, 9, 2, 0);
+      x.order(0, 1, 200, 9, 0);
+      x.sleeper(0, 900, 100, 9, 0);
+      x.order(2, 0, 100, 9, 0);
+      if (phase > 0) {
+        Face.call(x, phase == 1 ? 11 : 13);
+      }
+      for (int[] row : asked) {
+        String before = Snapshot.of(x);
+        Object got = Face.call(x, row[0], Arrays.copyOfRange(row, 1, row.length));
+        check.is("asked, call " + row[0] + " " + got, got instanceof Class, false);
+        check.is("s4 asked, changed, call " + row[0], Snapshot.of(x), before);
+      }
+    }
+  }
+
+  private static void booksShareNothing() {
+    Orderbook x = new Orderbook();
+    String empty = Snapshot.of(x);
+    Orderbook y = traded(2);
+    y.halt();
+    y.limit(0, 1);
+    y.knock();
+    y.blank();
+    check.is("1 another book", Snapshot.of(x), empty);
+    check.is("1 a new book", Snapshot.of(new Orderbook()), empty);
   }
 }

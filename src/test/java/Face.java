@@ -1,4 +1,4 @@
-/** Calls the methods of Orderbook by number, as Model does; what is thrown is its class. */
+/** Calls the methods of Orderbook by number, as Model does; what is thrown is its class, if Orderbook threw it. */
 final class Face {
   private static final int[] ARGUMENTS = {5, 5, 5, 1, 1, 2, 2, 1, 1, 2, 2, 0, 0, 0, 0, 0, 0, 1, 3, 2,
       2, 3, 2, 3, 1, 1, 2, 1, 2, 2, 1, 1, 2, 5, 1, 2, 0, 0};
@@ -15,7 +15,7 @@ final class Face {
     try {
       return call <= 14 ? (Object) (long) told(x, call, a) : asked(x, call, a);
     } catch (RuntimeException e) {
-      return e.getClass();
+      return Check.thrownBy(e);
     }
   }
 

@@ -34,6 +34,9 @@ public final class ReasonsTest {
     allOrNoneBandAtTheBest();
     orderOfReasons();
     orderOfLaterReasons();
+    orderOfReasonsOfHidden();
+    orderOfReasonsOfSleepers();
+    orderOfReasonsOfChange();
     check.end();
   }
 
@@ -425,5 +428,52 @@ public final class ReasonsTest {
     x.auction();
     check.refuses("7", 7, x, () -> x.order(3, 0, 500, 1, 2));
     check.refuses("8", 8, x, () -> x.order(2, 0, 499, 1, 2));
+  }
+
+  /** Sixty wait, tick 5, band 490 to 510, nothing is taken of owner 1. */
+  private static Orderbook strict() {
+    Orderbook x = new Orderbook();
+    for (int i = 0; i < 60; i++) {
+      x.order(0, 1, 500, 1, 0);
+    }
+    x.tick(5);
+    x.band(500, 10);
+    x.limit(1, 0);
+    return x;
+  }
+
+  private static void orderOfReasonsOfHidden() {
+    Orderbook x = strict();
+    check.refuses("hidden, 2 ahead of 3", 2, x, () -> x.hidden(0, 489, 1, 1, 1));
+    check.refuses("hidden, 2 ahead of 4", 2, x, () -> x.hidden(0, 491, 1, 1, 1));
+    check.refuses("hidden, 3 ahead of 4", 3, x, () -> x.hidden(0, 485, 1, 1, 1));
+    check.refuses("hidden, 4 ahead of 5", 4, x, () -> x.hidden(0, 490, 1, 1, 1));
+    check.refuses("hidden, 5", 5, x, () -> x.hidden(0, 490, 1, 1, 2));
+    x.halt();
+    check.refuses("hidden, 1 ahead of 2", 1, x, () -> x.hidden(0, 489, 1, 1, 1));
+    check.refuses("hidden, 1 ahead of 5", 1, x, () -> x.hidden(0, 490, 1, 1, 2));
+  }
+
+  private static void orderOfReasonsOfSleepers() {
+    Orderbook x = strict();
+    check.refuses("sleeper, 2 ahead of 3", 2, x, () -> x.sleeper(0, 501, 485, 1, 1));
+    check.refuses("sleeper, 2 ahead of 4", 2, x, () -> x.sleeper(0, 501, 490, 1, 1));
+    check.refuses("sleeper, 2 ahead of 5", 2, x, () -> x.sleeper(0, 501, 490, 1, 2));
+    check.refuses("sleeper, 3 ahead of 4", 3, x, () -> x.sleeper(0, 500, 485, 1, 1));
+    check.refuses("sleeper, 4 ahead of 5", 4, x, () -> x.sleeper(0, 500, 490, 1, 1));
+    check.refuses("sleeper, 5", 5, x, () -> x.sleeper(0, 500, 490, 1, 2));
+    x.halt();
+    check.refuses("sleeper, 1 ahead of 2", 1, x, () -> x.sleeper(0, 501, 490, 1, 1));
+  }
+
+  private static void orderOfReasonsOfChange() {
+    Orderbook x = strict();
+    x.limit(0, 0);
+    check.refuses("change, 2 ahead of 3", 2, x, () -> x.change(7, 489));
+    check.refuses("change, 3", 3, x, () -> x.change(7, 485));
+    check.is("change, neither 4 nor 5", x.change(7, 490), 1);
+    x.halt();
+    check.refuses("change, 1 ahead of 2", 1, x, () -> x.change(7, 489));
+    check.refuses("change, 1 ahead of 3", 1, x, () -> x.change(7, 485));
   }
 }

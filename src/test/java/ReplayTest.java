@@ -23,6 +23,7 @@ public final class ReplayTest {
     pastOfBothBests();
     pastCountsNothing();
     pastWithReasons();
+    pastBackAndForth();
     soundAtEachPhase();
     digestOfFewOrders();
     digestOfFewTrades();
@@ -163,7 +164,14 @@ public final class ReplayTest {
     x.order(0, 1, 100, 3, 1);
     check.is("36 as told then", x.wouldAuction(0), 100);
     check.is("14 as it would", x.auction(), 100);
+    check.is("36 none behind it, nothing is left over", x.wouldAuction(2), 0);
+    check.is("36 none behind it, nothing would trade", x.wouldAuction(1), 0);
     check.is("36 none behind it", x.wouldAuction(0), -1);
+    x.gather();
+    x.order(0, 1, 121, 3, 1);
+    check.is("36 left over ahead of it", x.change(2, 119) + x.wouldAuction(2), 4);
+    x.change(2, 121);
+    check.is("36 nothing is left over then", x.wouldAuction(2), 0);
   }
 
   private static void pastOfNone() {
@@ -247,6 +255,30 @@ public final class ReplayTest {
     check.is("37 halted", both(x.past(3, 1), x.past(4, 1)), both(2, 2));
     check.is("37 refused", both(x.past(4, 5), x.past(4, 13)), both(2, 4));
     check.is("37 open again, and taken", both(x.past(5, 1), x.past(6, 5)), 3);
+  }
+
+  /** A replay that starts anew forgets all that the one before it did. */
+  private static void pastBackAndForth() {
+    Orderbook x = asks();
+    x.sleeper(0, 100, 101, 5, 3);
+    x.order(0, 0, 101, 5, 1);
+    x.order(0, 0, 100, 5, 5);
+    x.order(0, 1, 100, 1, 4);
+    x.pass(3);
+    x.tick(2);
+    x.band(505, 5);
+    x.limit(3, 77);
+    x.order(0, 1, 499, 7, 3);
+    x.order(1, 0, 501, 7, 3);
+    x.halt();
+    x.gather();
+    int told = x.house(13);
+    for (int many = 0; many <= told; many++) {
+      check.is("37 so many were told", x.past(many, 13), many);
+      check.is("38 sound behind it", x.isSound(), true);
+      check.is("37 nothing again", both(x.past(0, 10), x.past(0, 5)), 0);
+      check.is("37 all of it again", both(x.past(told, 10), x.past(told, 5)), both(x.house(10), x.house(5)));
+    }
   }
 
   private static void soundAtEachPhase() {

@@ -33,7 +33,7 @@ public final class SafetyTest {
   }
 
   private static void named(int run, int i, int call, Object got) {
-    boolean isNamed = !(got instanceof Class) || NAMED.contains(got);
+    boolean isNamed = got instanceof Class ? NAMED.contains(got) : !(got instanceof Exception);
     check.is("run " + run + ", call " + i + " (" + call + ") " + got, isNamed, true);
   }
 

@@ -28,6 +28,7 @@ public final class ComingTest {
     partAsItGoesIn();
     partOfWhatIsLeft();
     hiddenBehindOthers();
+    hiddenComesWhole();
     rests();
     atOnceExactly();
     leftIsToldAsNothing();
@@ -303,6 +304,18 @@ public final class ComingTest {
     x.order(0, 0, 100, 10, 0);
     check.is("step 4: in turns", x.tape(0), "2x100 3x100 2x100 3x100");
     check.is("step 4: one is done, one goes on", both(x.ofOrder(1, 7), x.ofOrder(0, 5)), both(2, 2));
+  }
+
+  /** What comes trades with all that is left of it, shown or not. */
+  private static void hiddenComesWhole() {
+    Orderbook x = new Orderbook();
+    x.order(0, 1, 100, 9, 1);
+    x.hidden(0, 100, 5, 2, 0);
+    check.is("step 4: LEFT of a hidden one that came", x.tape(0), "5x100");
+    check.is("step 4: it is done", both(x.ofOrder(1, 7), x.ofOrder(0, 5)), both(2, 4));
+    x.hidden(0, 90, 3, 2, 0);
+    check.is("8 also by change", both(x.change(2, 100), x.ofOrder(2, 7)), 2);
+    check.is("step 4: in one trade", x.tape(1), "3x100");
   }
 
   private static void rests() {

@@ -29,6 +29,7 @@ public final class ReasonsTest {
     onlyToWaitLooksAtAll();
     allOrNoneEnough();
     allOrNoneOwners();
+    allOrNoneOfWhatIsLeft();
     allOrNoneReach();
     allOrNoneBand();
     allOrNoneBandAtTheBest();
@@ -356,6 +357,18 @@ public final class ReasonsTest {
     check.is("reason 8, others do", x.order(2, 1, 99, 5, 0), 2);
     check.is("its own has ended", x.ofOrder(0, 7) * 10 + x.account(0, 6), 31);
     check.is("done", x.ofOrder(2, 7), 2);
+  }
+
+  private static void allOrNoneOfWhatIsLeft() {
+    Orderbook x = new Orderbook();
+    x.order(0, 1, 100, 9, 1);
+    x.order(0, 0, 100, 3, 2);
+    x.less(0, 2);
+    x.order(0, 1, 101, 7, 1);
+    check.refuses("reason 8, LEFT, not PIECES", 8, x, () -> x.order(2, 0, 100, 5, 0));
+    check.refuses("reason 8, LEFT of both", 8, x, () -> x.order(2, 0, 101, 12, 0));
+    check.is("reason 8, all that is left", x.order(2, 0, 101, 11, 0), 3);
+    check.is("nobody waits", x.house(6), 0);
   }
 
   private static void allOrNoneReach() {

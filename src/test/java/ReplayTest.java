@@ -7,6 +7,7 @@ public final class ReplayTest {
   public static void main(String[] args) {
     wouldOfNobody();
     wouldByPieces();
+    wouldOfWhatIsLeft();
     wouldByReach();
     wouldBySell();
     wouldByOwner();
@@ -62,6 +63,19 @@ public final class ReplayTest {
       check.is("35 nothing is changed", x.text(1) + x.house(10) + x.house(13), "100x4 101x202");
       x.order(0, 0, 101, row[0], 0);
       check.is("35 as it then trades", both(x.account(0, 0), -x.account(0, 1)), both(row[1], row[2]));
+    }
+  }
+
+  /** Of 9 pieces 4 are left, then come 7. */
+  private static void wouldOfWhatIsLeft() {
+    Orderbook x = new Orderbook();
+    x.order(0, 1, 100, 9, 1);
+    x.order(0, 0, 100, 5, 2);
+    x.order(0, 1, 101, 7, 1);
+    int[][] due = {{3, 3, 300}, {4, 4, 400}, {5, 5, 501}, {8, 8, 804}, {9, 9, 905}, {11, 11, 1107}, {12, 11, 1107}};
+    for (int[] row : due) {
+      check.is("35 of what is left " + row[0], x.would(0, 101, row[0], 0, false), row[1]);
+      check.is("35 money of what is left " + row[0], x.would(0, 101, row[0], 0, true), row[2]);
     }
   }
 

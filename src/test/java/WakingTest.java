@@ -30,6 +30,8 @@ public final class WakingTest {
     sleepersDoNotCount();
     noBandInAnAuction();
     tradesUpToThePrice();
+    bidsBelowThePrice();
+    asksAboveThePrice();
     tradesWithItself();
     partsInAnAuction();
     referenceAndPhase();
@@ -363,6 +365,28 @@ public final class WakingTest {
     check.is("14 who came", both(x.trade(0, 5), x.trade(1, 5)), both(2, 2));
     check.is("14 what waits then", x.text(0) + " " + x.text(1), "100x3 99x2 101x2");
     check.is("38 not crossed", x.isSound(), true);
+  }
+
+  private static void bidsBelowThePrice() {
+    Orderbook x = new Orderbook();
+    x.gather();
+    x.order(0, 1, 100, 9, 0);
+    x.order(0, 0, 100, 3, 1);
+    x.order(0, 0, 99, 2, 2);
+    check.is("14 the price", x.auction(), 100);
+    check.is("14 over at a bid below it", x.tape(0), "3x100");
+    check.is("14 both wait", x.text(0) + " " + x.text(1), "99x2 100x6");
+  }
+
+  private static void asksAboveThePrice() {
+    Orderbook x = new Orderbook();
+    x.gather();
+    x.order(0, 0, 100, 9, 0);
+    x.order(0, 1, 100, 3, 1);
+    x.order(0, 1, 101, 2, 2);
+    check.is("14 the price", x.auction(), 100);
+    check.is("14 over at an ask above it", x.tape(0), "3x100");
+    check.is("14 both wait", x.text(0) + " " + x.text(1), "100x6 101x2");
   }
 
   private static void tradesWithItself() {

@@ -434,6 +434,13 @@ public final class AnswersTest {
     x.order(0, 0, 50, 1, 0);
     x.order(0, 1, 50, 1, 1);
     check.is("32 the last price again", x.house(12), 50);
+    x.gather();
+    x.order(0, 0, 60, 1, 0);
+    x.order(0, 1, 60, 1, 1);
+    x.auction();
+    check.is("32 the last price of an auction", x.house(12), 60);
+    x.band(70, 999);
+    check.is("32 not the reference", both(x.house(3), x.house(12)), both(70, 60));
   }
 
   private static void nineIsCounted() {

@@ -17,6 +17,8 @@ public final class CallsTest {
     lessOfEachState();
     lessStaysAtItsPlace();
     lessOfHidden();
+    lessBesideThePart();
+    lessLeavesWhatPartsShow();
     lessOfASleeper();
     lessInEachPhase();
     changeOfEachState();
@@ -30,6 +32,7 @@ public final class CallsTest {
     changeOfASleeper();
     changeOfOnlyToWait();
     changeInGathering();
+    changeToTheSameInGathering();
     changeReasonOne();
     passToTheLast();
     passOverTheLast();
@@ -37,6 +40,7 @@ public final class CallsTest {
     bandIsOfTheNext();
     limitIsOfTheNext();
     gatherFromBoth();
+    phasesLeaveTheRest();
     haltAndResume();
     blanks();
     knocks();
@@ -188,6 +192,22 @@ public final class CallsTest {
     check.failsUnchanged("7 the last piece", STATE, z, () -> z.less(0, 1));
   }
 
+  /** Fewer than a part has: nothing of what is shown, as long as there is something that is not. */
+  private static void lessBesideThePart() {
+    Orderbook x = tenHidden();
+    check.is("7 two of seven that are not shown", both(x.less(0, 2), x.ofOrder(0, 6)), both(8, 3));
+    check.is("7 as many as a part", both(x.less(0, 3), x.ofOrder(0, 6)), both(5, 3));
+    check.is("7 the last ones that are not shown", both(x.less(0, 2), x.ofOrder(0, 6)), both(3, 3));
+  }
+
+  private static void lessLeavesWhatPartsShow() {
+    Orderbook x = tenHidden();
+    x.order(0, 1, 100, 2, 2);
+    check.is("7 one is shown of its part", both(x.less(0, 2), x.ofOrder(0, 6)), both(6, 1));
+    x.order(0, 1, 100, 1, 2);
+    check.is("s1 the next part as it was told", both(x.ofOrder(0, 6), x.ofOrder(0, 5)), both(3, 5));
+  }
+
   private static void lessOfASleeper() {
     Orderbook x = eachState();
     check.failsUnchanged("7 all of a sleeper", STATE, x, () -> x.less(1, 8));
@@ -306,6 +326,7 @@ public final class CallsTest {
     x.order(0, 1, 101, 1, 2);
     check.is("8 one that slept waits now", x.change(0, 60), 4);
     check.is("8 where it waits", x.text(0), "60x4");
+    check.is("21 its kind and its trigger stay", both(x.ofOrder(0, 4), x.ofOrder(0, 9)), both(5, 101));
     x.tick(2);
     check.is("8 its trigger does not matter", x.change(0, 62), 4);
     check.refuses("8 the price does", 2, x, () -> x.change(0, 63));
@@ -335,6 +356,15 @@ public final class CallsTest {
     check.refuses("8 reason 3 in gathering", 3, x, () -> x.change(0, 96));
     check.is("8 at the edge", x.change(0, 98), 9);
     check.refuses("8 reason 2 ahead of 3", 2, x, () -> x.change(0, 95));
+  }
+
+  private static void changeToTheSameInGathering() {
+    Orderbook x = new Orderbook();
+    x.gather();
+    x.order(0, 0, 100, 9, 0);
+    x.order(0, 0, 100, 8, 1);
+    check.is("8 the same price in gathering", x.change(0, 100), 9);
+    check.is("8 at the end of its queue", both(x.queued(0, 100, 0), x.queued(0, 100, 1)), both(1, 0));
   }
 
   private static void changeReasonOne() {
@@ -409,6 +439,40 @@ public final class CallsTest {
     check.is("13 from halted", x.gather(), 2);
     check.failsUnchanged("15 gathering", STATE, x, () -> x.halt());
     check.failsUnchanged("16 gathering", STATE, x, () -> x.resume());
+  }
+
+  /** What stands in the house beside the phase, the minute and how many calls were told. */
+  private static String houseButPhase(Orderbook x) {
+    StringBuilder out = new StringBuilder(x.text(0) + " " + x.text(1));
+    for (int what = 2; what <= 16; what++) {
+      out.append(' ').append(what == 13 ? 0 : x.house(what));
+    }
+    for (int owner = 0; owner <= 5; owner++) {
+      out.append(' ').append(x.account(owner, 2)).append(' ').append(x.account(owner, 5));
+    }
+    return out.toString();
+  }
+
+  private static void phasesLeaveTheRest() {
+    Orderbook x = eachState();
+    x.tick(7);
+    x.band(321, 12);
+    x.limit(0, 3);
+    String before = houseButPhase(x);
+    x.halt();
+    check.is("15 the rest stays", houseButPhase(x), before);
+    x.pass(99);
+    check.is("9 the phase stays halted", x.house(1) + " " + houseButPhase(x), "2 " + before);
+    x.resume();
+    check.is("16 the rest stays", houseButPhase(x), before);
+    x.pass(1);
+    check.is("9 the phase stays open", x.house(1) + " " + houseButPhase(x), "0 " + before);
+    x.gather();
+    check.is("13 the rest stays", houseButPhase(x), before);
+    x.pass(50);
+    check.is("9 the phase stays gathering", x.house(1) + " " + houseButPhase(x), "1 " + before);
+    x.auction();
+    check.is("14 without a price the rest stays", houseButPhase(x), before);
   }
 
   private static void haltAndResume() {

@@ -17,10 +17,13 @@ public final class ComingTest {
     ownOnesAlone();
     ownOneNotLookedAt();
     ownHiddenOne();
+    ownOnesOfEachKind();
+    ownSleeperStays();
     fewerThanShown();
     asManyAsShown();
     moreThanShown();
     partOfAPart();
+    partOfTheLastOnes();
     wholePart();
     nextPartAsMuchAsLeft();
     nextPartIsLess();
@@ -203,6 +206,42 @@ public final class ComingTest {
     check.is("step 3: once", x.account(0, 6), 1);
   }
 
+  /** Whatever comes: its own one that waits ahead of another's ends, and it is counted once. */
+  private static void ownOnesOfEachKind() {
+    for (int kind = 0; kind <= 5; kind++) {
+      Orderbook x = new Orderbook();
+      x.order(0, 1, 100, 3, 0);
+      x.order(0, 1, 100, 1, 1);
+      comeAtHundred(x, kind);
+      check.is("step 3: by kind " + kind, both(x.ofOrder(0, 7), x.account(0, 6)), both(3, 1));
+      check.is("step 4: by kind " + kind, both(x.ofOrder(1, 7), x.ofOrder(2, 8)), both(2, 1));
+    }
+  }
+
+  /** Order 2, one piece of owner 0; only to wait comes by a change, a sleeper by a trade of others. */
+  private static void comeAtHundred(Orderbook x, int kind) {
+    if (kind == 3) {
+      x.order(3, 0, 90, 1, 0);
+      x.change(2, 100);
+    } else if (kind == 4) {
+      x.hidden(0, 100, 1, 1, 0);
+    } else if (kind == 5) {
+      x.sleeper(0, 99, 100, 1, 0);
+      x.order(0, 1, 99, 1, 2);
+      x.order(0, 0, 99, 1, 3);
+    } else {
+      x.order(kind, 0, 100, 1, 0);
+    }
+  }
+
+  private static void ownSleeperStays() {
+    Orderbook x = new Orderbook();
+    x.sleeper(1, 1, 100, 5, 0);
+    x.order(0, 1, 100, 5, 0);
+    x.order(0, 0, 100, 5, 0);
+    check.is("step 3: who sleeps stays", both(x.ofOrder(0, 7), x.ofOrder(1, 7)), both(1, 3));
+  }
+
   private static void fewerThanShown() {
     Orderbook x = new Orderbook();
     x.order(0, 1, 100, 5, 1);
@@ -237,6 +276,16 @@ public final class ComingTest {
     x.order(0, 0, 100, 2, 0);
     check.is("step 4: a part that is not traded stays", x.first(1, 100), 0);
     check.is("step 4: with what is shown of it", both(x.ofOrder(0, 6), x.ofOrder(0, 5)), both(1, 7));
+  }
+
+  /** Fewer are left than were traded of the part: it stays at its place all the same. */
+  private static void partOfTheLastOnes() {
+    Orderbook x = new Orderbook();
+    x.hidden(1, 100, 5, 4, 1);
+    x.order(0, 1, 100, 9, 2);
+    x.order(0, 0, 100, 3, 0);
+    check.is("step 4: the rest of the part stays", x.first(1, 100), 0);
+    check.is("step 4: with what is shown of it", both(x.ofOrder(0, 6), x.ofOrder(0, 5)), both(1, 2));
   }
 
   private static void wholePart() {

@@ -28,6 +28,7 @@ public final class ReasonsTest {
     onlyToWaitSells();
     onlyToWaitLooksAtAll();
     allOrNoneEnough();
+    allOrNoneOfTheMost();
     allOrNoneOwners();
     allOrNoneOfWhatIsLeft();
     allOrNoneReach();
@@ -95,6 +96,10 @@ public final class ReasonsTest {
     check.refuses("reason 2, the trigger", 2, x, () -> x.sleeper(0, 11, 20, 1, 0));
     check.refuses("reason 2, the price", 2, x, () -> x.sleeper(0, 10, 21, 1, 0));
     check.refuses("reason 2, both are not", 2, x, () -> x.sleeper(0, 11, 21, 1, 0));
+    x.gather();
+    check.refuses("reason 2, the trigger, gathering", 2, x, () -> x.sleeper(0, 11, 20, 1, 0));
+    check.refuses("reason 2, the price, gathering", 2, x, () -> x.sleeper(0, 10, 21, 1, 0));
+    check.is("reason 2, both are, gathering", x.sleeper(0, 10, 20, 1, 0), 1);
   }
 
   private static void tickOfTen() {
@@ -347,6 +352,15 @@ public final class ReasonsTest {
     check.is("reason 8, as many", x.order(2, 0, 101, 10, 0), 3);
     check.is("all of it", x.ofOrder(3, 7) * 100 + x.ofOrder(3, 8), 210);
     check.refuses("reason 8, nobody is left", 8, x, () -> x.order(2, 0, 999, 1, 0));
+  }
+
+  private static void allOrNoneOfTheMost() {
+    Orderbook x = new Orderbook();
+    x.order(0, 1, 100, 499, 1);
+    check.refuses("reason 8, 499 of 500", 8, x, () -> x.order(2, 0, 100, 500, 0));
+    x.order(0, 1, 100, 1, 2);
+    check.is("reason 8, 500 of 500", x.order(2, 0, 100, 500, 0), 2);
+    check.is("all 500", x.ofOrder(2, 8), 500);
   }
 
   private static void allOrNoneOwners() {

@@ -25,6 +25,7 @@ public final class ReplayTest {
     pastCountsNothing();
     pastWithReasons();
     pastBackAndForth();
+    pastWakesByNumberAgain();
     soundAtEachPhase();
     digestOfFewOrders();
     digestOfFewTrades();
@@ -292,6 +293,22 @@ public final class ReplayTest {
       check.is("38 sound behind it", x.isSound(), true);
       check.is("37 nothing again", both(x.past(0, 10), x.past(0, 5)), 0);
       check.is("37 all of it again", both(x.past(told, 10), x.past(told, 5)), both(x.house(10), x.house(5)));
+    }
+  }
+
+  /** Each replay wakes by number, also where the last one left the same orders in their queues. */
+  private static void pastWakesByNumberAgain() {
+    Orderbook x = new Orderbook();
+    x.sleeper(0, 100, 150, 1, 0);
+    x.sleeper(0, 100, 200, 1, 1);
+    x.order(0, 1, 100, 1, 3);
+    x.order(0, 1, 150, 1, 4);
+    x.order(0, 0, 100, 1, 5);
+    check.is("s3 the second one waits", x.best(0), 200);
+    for (int again = 0; again < 3; again++) {
+      check.is("37 both sleep", both(x.past(0, 7), x.past(4, 7)), 2);
+      check.is("37 the second one waits", both(x.past(5, 17), x.past(5, 7)), both(200, 0));
+      check.is("38 sound again", x.isSound(), true);
     }
   }
 

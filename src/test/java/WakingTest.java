@@ -8,6 +8,7 @@ public final class WakingTest {
     triggersOfSell();
     earlierTradesDoNotWake();
     eachTradeWakes();
+    eachKindWakes();
     smallestNumberFirst();
     wokenBySleepers();
     comesAsPlain();
@@ -27,6 +28,7 @@ public final class WakingTest {
     smallestPrice();
     onlyPricesOfOrders();
     hiddenCountsWhole();
+    hiddenSellsWhole();
     sleepersDoNotCount();
     noBandInAnAuction();
     tradesUpToThePrice();
@@ -95,6 +97,27 @@ public final class WakingTest {
     x.order(0, 0, 101, 2, 2);
     check.is("s3 the last price wakes", x.text(0), "10x1");
     check.is("s3 the first price woke", x.text(1), "900x1");
+  }
+
+  private static void eachKindWakes() {
+    for (int kind = 0; kind <= 2; kind++) {
+      Orderbook x = new Orderbook();
+      x.sleeper(0, 100, 50, 1, 0);
+      x.order(0, 1, 100, 2, 1);
+      x.order(kind, 0, 100, 2, 2);
+      check.is("s3 a trade of kind " + kind + " wakes", both(x.sleepers(0), x.best(0)), 50);
+    }
+    Orderbook y = new Orderbook();
+    y.sleeper(1, 100, 200, 1, 0);
+    y.order(3, 0, 100, 2, 1);
+    y.hidden(1, 100, 2, 1, 2);
+    check.is("s3 a trade of a hidden one wakes", both(y.sleepers(1), y.best(1)), 200);
+    Orderbook z = new Orderbook();
+    z.sleeper(1, 100, 200, 1, 0);
+    z.order(3, 0, 90, 2, 1);
+    z.order(3, 1, 100, 2, 2);
+    z.change(1, 100);
+    check.is("s3 a trade of a change wakes", both(z.sleepers(1), z.best(1)), 200);
   }
 
   private static void smallestNumberFirst() {
@@ -325,6 +348,16 @@ public final class WakingTest {
     x.gather();
     x.hidden(0, 110, 9, 1, 0);
     x.order(0, 1, 100, 7, 1);
+    check.is("36 LEFT, not SHOWN", both(x.wouldAuction(1), x.wouldAuction(2)), both(7, 2));
+    x.auction();
+    check.is("14 all that trades", both(x.house(11), x.house(10)), both(7, 7));
+  }
+
+  private static void hiddenSellsWhole() {
+    Orderbook x = new Orderbook();
+    x.gather();
+    x.hidden(1, 100, 9, 1, 0);
+    x.order(0, 0, 110, 7, 1);
     check.is("36 LEFT, not SHOWN", both(x.wouldAuction(1), x.wouldAuction(2)), both(7, 2));
     x.auction();
     check.is("14 all that trades", both(x.house(11), x.house(10)), both(7, 7));
